@@ -1338,7 +1338,7 @@ public final class PutOffWicks {
         }
 
         int fewestToEnd() {
-            for (int many = 0; many < MOST_ENDED; many++) {
+            for (int many = ringsOfTwo(); many < MOST_ENDED; many++) {
                 if (canEnd(many, 0)) {
                     return many;
                 }
@@ -1355,7 +1355,7 @@ public final class PutOffWicks {
             if (size == 0) {
                 return true;
             }
-            if (many <= 0 || depth >= MOST_ENDED) {
+            if (many <= 0 || many < ringsOfTwo() || depth >= MOST_ENDED) {
                 return false;
             }
             boolean found = false;
@@ -1377,6 +1377,19 @@ public final class PutOffWicks {
                 }
             }
             return found;
+        }
+
+        /** No two of these have a wait in common, so at least as many must end. */
+        private int ringsOfTwo() {
+            int many = 0;
+            for (int who = 1; who < PEOPLE; who++) {
+                for (int other = 0; other < who && waitsFor[who] != 0; other++) {
+                    if ((waitsFor[who] >>> other & waitsFor[other] >>> who & 1) != 0) {
+                        many++;
+                    }
+                }
+            }
+            return many;
         }
 
         private int ringAt(int depth, int i) {
