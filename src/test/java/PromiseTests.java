@@ -706,6 +706,16 @@ public final class PromiseTests {
         B.due("all for all", waiting(1, all), 10);
         B.due("all for all, for ever", waiting(0, all), 31);
         B.due("15", waiting(0, 15, 0, 0, 15), 1 << 15 | 1);
+        int[] ring = new int[32];
+        for (int who = 0; who < 16; who++) {
+            ring[2 * who] = who;
+            ring[2 * who + 1] = (who + 1) % 16;
+        }
+        B.due("a ring of all", waiting(0, ring), 65535);
+        B.due("one ends", waiting(1, ring), 1);
+        int[] row = java.util.Arrays.copyOf(ring, 30);
+        B.due("a row of all", waiting(0, row), 0);
+        B.due("none must end", waiting(1, row), 0);
         B.due("above 15", waiting(0, 0, 1, 0, 16), -3);
         B.due("above 15", waiting(1, 255, 1), -3);
         B.due("himself", waiting(1, 0, 1, 7, 7), -3);
@@ -719,6 +729,11 @@ public final class PromiseTests {
         B.due("great n", x.waiting(Integer.MAX_VALUE, 0), -1);
         B.due("n of half the ints", x.waiting(1 << 31, 0), -1);
         B.due("tape stays", x.count(6), 20);
+        for (int i = 0; i < 4; i++) {
+            x.feed(0x00010203, 0x00010203, 0x00010203, 0x00010203, 0x00010203);
+        }
+        B.due("n 21 of enough", x.waiting(21, 0), -1);
+        B.due("n 20 of enough", x.waiting(20, 0), -3);
     }
 
     private static int spun(int what, int... hours) {
@@ -834,6 +849,8 @@ public final class PromiseTests {
         java.util.Arrays.fill(most, 255);
         B.due("the longest of all", cord(1, most), 3060);
         B.due("twelve of eight", cord(8, most), 382);
+        B.due("2048", cord(1, 255, 255, 255, 255, 255, 255, 255, 255, 8), 2048);
+        B.due("2047", cord(1, 255, 255, 255, 255, 255, 255, 255, 255, 7), 2047);
         PutOffWicks x = new PutOffWicks();
         x.feed(0, 0, 0, 0, 0);
         B.due("n 1", x.cord(1, 1), -1);
