@@ -1234,10 +1234,9 @@ public final class PutOffWicks {
                 reading.fail(6, place);
                 return;
             }
-            for (int i = Math.max(turns, 0); i < all; i++) {
-                int source = i - row;
-                if (source >= 0 && source < MOST_TURNS && i < MOST_TURNS) {
-                    turn[i] = turn[source];
+            for (int i = turns; i < all; i++) {
+                if (i >= row && i - row < MOST_TURNS) {
+                    turn[i] = turn[i - row];
                 }
             }
             turns = all;
