@@ -89,14 +89,6 @@ public final class PromiseTests {
         B.due("the fourth byte", x.cord(4, 1), 7);
     }
 
-    private static String times(String text, int many, String between) {
-        StringBuilder all = new StringBuilder();
-        for (int i = 0; i < many; i++) {
-            all.append(i == 0 ? "" : between).append(text);
-        }
-        return all.toString();
-    }
-
     private static void lawFault(String text, int want) {
         PutOffWicks x = new PutOffWicks();
         Bench.law(x, "x(1=2);x(1=3)");
@@ -138,11 +130,11 @@ public final class PromiseTests {
         lawFault("x(12345=99999)", 1);
         lawFault("x(123456=1)", -2007);
         lawFault("d000001(k=0)", -2006);
-        lawFault(times("x(1=1)", 16, ";"), 16);
-        lawFault(times("x(1=1)", 17, ";"), -4112);
-        lawFault(times("x(1=1)", 16, ";") + ";", -1112);
-        lawFault(times("x(1=1)", 16, ";") + ";k", -1112);
-        lawFault(times("x(1=1)", 16, ";") + ";b", -4112);
+        lawFault(Bench.times("x(1=1)", 16, ";"), 16);
+        lawFault(Bench.times("x(1=1)", 17, ";"), -4112);
+        lawFault(Bench.times("x(1=1)", 16, ";") + ";", -1112);
+        lawFault(Bench.times("x(1=1)", 16, ";") + ";k", -1112);
+        lawFault(Bench.times("x(1=1)", 16, ";") + ";b", -4112);
         lawFault("x((((((1=1))))))", 1);
         lawFault("x(((((((1=1)))))))", -5007);
         lawFault("x(!!!!!1=1)", 1);
@@ -179,7 +171,7 @@ public final class PromiseTests {
     }
 
     private static void promise4Rules() {
-        String eight = times("a9", 8, ";");
+        String eight = Bench.times("a9", 8, ";");
         litBy(eight, "x(k=1|k=2&k=3)", 2);
         litBy(eight, "x(k=1|k=2);x(k=4)", 2 + 4 + 16);
         litBy(eight, "x((k=1|k=2)&k>1)", 4);
@@ -248,7 +240,7 @@ public final class PromiseTests {
     }
 
     private static void promise4Refused() {
-        String four = times("a50*", 4, ";");
+        String four = Bench.times("a50*", 4, ";");
         litBy("a5;a5", "x(1/k=1)", 2);
         litBy("a5;a5", "x(1%k=0)", 2);
         litBy("a5;a5", "x(!1/k=5)", 2);
@@ -299,12 +291,12 @@ public final class PromiseTests {
         parishFault("a1b1", -1002);
         parishFault("a0999", -2004);
         parishFault("1", -1000);
-        parishFault(times("a1", 24, ";"), 24);
-        parishFault(times("a1", 25, ";"), -4072);
-        parishFault(times("a1", 24, ";") + ";", -1072);
-        parishFault(times("a1", 24, ";") + ";1", -1072);
-        parishFault(times("a1", 10, ";") + times(";a1<10", 2, ""), -3033);
-        parishFault(times("a1", 11, ";") + times(";a1<10", 2, ""), 13);
+        parishFault(Bench.times("a1", 24, ";"), 24);
+        parishFault(Bench.times("a1", 25, ";"), -4072);
+        parishFault(Bench.times("a1", 24, ";") + ";", -1072);
+        parishFault(Bench.times("a1", 24, ";") + ";1", -1072);
+        parishFault(Bench.times("a1", 10, ";") + Bench.times(";a1<10", 2, ""), -3033);
+        parishFault(Bench.times("a1", 11, ";") + Bench.times(";a1<10", 2, ""), 13);
         PutOffWicks x = Bench.with("a9*;b20*;c3", "d10(k=0)");
         x.days(3);
         B.due("guttered ahead", x.count(4), 1);
@@ -341,17 +333,17 @@ public final class PromiseTests {
         B.due("lit still", x.count(2), 1);
         B.due("put off", x.thingIs(3, 3), 5);
         B.due("the day", x.count(0), 5);
-        B.due("x", x.count(7), draws(1, 40));
+        B.due("x", x.count(7), Bench.drawn(1, 40));
         PutOffWicks y = Bench.with("a5;a5<0;a5<1", "d10(1=1)");
         B.due("all in a day, by numbers", y.days(1), 3);
-        B.due("two draws each", y.count(7), draws(1, 6));
+        B.due("two draws each", y.count(7), Bench.drawn(1, 6));
         B.due("done ones have no draws", y.days(4), 0);
-        B.due("the same x", y.count(7), draws(1, 6));
+        B.due("the same x", y.count(7), Bench.drawn(1, 6));
         B.due("the day goes on", y.count(0), 5);
         B.due("done ones do not grow", y.thingIs(0, 1), 5);
         PutOffWicks z = Bench.with("a5;a5<0;a5<1", "d10(k>0)");
         B.due("who waits is not done", z.days(7), 0);
-        B.due("the draw is made always", z.count(7), draws(1, 42));
+        B.due("the draw is made always", z.count(7), Bench.drawn(1, 42));
         PutOffWicks g = Bench.with("a5*;b5*;c5", "d10(1=1);b5(k=0);x(k=2)");
         B.due("days", g.days(1), 3);
         B.due("burnt out, it does not gutter; lit by x, it does", g.count(4), 2);
@@ -361,13 +353,6 @@ public final class PromiseTests {
         PutOffWicks none = new PutOffWicks();
         B.due("days of no things", none.days(100), 0);
         B.due("go by", none.count(0), 100);
-    }
-
-    private static int draws(int x, int many) {
-        for (int i = 0; i < many; i++) {
-            x = (int) ((25173L * x + 13849L) % 65536L);
-        }
-        return x;
     }
 
     private static void promise6Edges() {
@@ -395,11 +380,11 @@ public final class PromiseTests {
         B.due("as many as can", x.days(100), 0);
         B.due("9999 at most", x.count(0), 9999);
         B.due("days 9999", x.thingIs(0, 3), 9999);
-        B.due("draws of four days", x.count(7), draws(before, 16));
+        B.due("draws of four days", x.count(7), Bench.drawn(before, 16));
         Bench.law(x, "d10(1=1)");
         B.due("none goes by", x.days(5), 0);
         B.due("nothing done", x.count(3), 0);
-        B.due("no draw", x.count(7), draws(before, 16));
+        B.due("no draw", x.count(7), Bench.drawn(before, 16));
         B.due("not done by then", x.byWhen(0, 100), -2);
         B.due("not dark by then", x.dark(100), -2);
     }
@@ -427,7 +412,7 @@ public final class PromiseTests {
         x.days(1);
         B.due("none more is done", x.tried(1, 0), 0);
         B.due("guttered in all", x.tried(1, 1), 1);
-        PutOffWicks all = Bench.with(times("a1", 24, ";"));
+        PutOffWicks all = Bench.with(Bench.times("a1", 24, ";"));
         B.due("what 33", all.tried(1, 33), 2);
         B.due("what 34", all.tried(1, 34), -1);
         B.due("what 63", all.tried(2, 63), 2);
@@ -536,15 +521,15 @@ public final class PromiseTests {
 
     private static void promise14() {
         B.due("none", new PutOffWicks().orders(), 1);
-        B.due("12 free", Bench.with(times("a1", 12, ";")).orders(), 479001600);
-        B.due("13", Bench.with(times("a1", 13, ";")).orders(), -4);
+        B.due("12 free", Bench.with(Bench.times("a1", 12, ";")).orders(), 479001600);
+        B.due("13", Bench.with(Bench.times("a1", 13, ";")).orders(), -4);
         B.due("one behind the other", Bench.with("a1;a1<0;a1<1;a1<2").orders(), 1);
         B.due("three behind one", Bench.with("a1;a1<0;a1<0;a1<0").orders(), 6);
         B.due("two twos", Bench.with("a1;a1<0;a1;a1<2").orders(), 6);
         PutOffWicks x = Bench.with("a1;a1<0;a1<0;a1<1", "d10(k=0)");
         x.days(1);
         B.due("those done stand ahead", x.orders(), 3);
-        PutOffWicks thirteen = Bench.with(times("a1", 13, ";"), "d10(k=5)");
+        PutOffWicks thirteen = Bench.with(Bench.times("a1", 13, ";"), "d10(k=5)");
         thirteen.days(1);
         B.due("12 of 13", thirteen.orders(), 479001600);
         PutOffWicks odd = Bench.with("a1;a1;a1", "d10(k=1)");
@@ -636,8 +621,8 @@ public final class PromiseTests {
         twistFault(4, "9(8a)d", -6000);
         twistFault(4, "2(9(8a))d", -6002);
         twistFault(4, "2(5(8a))d", -6000);
-        twistFault(4, times("a", 64, ""), 64);
-        twistFault(4, times("a", 65, ""), -6064);
+        twistFault(4, Bench.times("a", 64, ""), 64);
+        twistFault(4, Bench.times("a", 65, ""), -6064);
         twistFault(4, "7(9a)(a)", 64);
         twistFault(4, "8(8a)(a)", -6006);
         twistFault(4, "7(9a)2(a)", -6005);
@@ -980,10 +965,10 @@ public final class PromiseTests {
         B.due("65535", x.seed(65535), true);
         B.due("x", x.count(7), 65535);
         x.days(1);
-        B.due("drawn on", x.count(7), draws(65535, 2));
+        B.due("drawn on", x.count(7), Bench.drawn(65535, 2));
         B.due("0", x.seed(0), true);
         x.days(1);
-        B.due("drawn on from 0", x.count(7), draws(0, 2));
+        B.due("drawn on from 0", x.count(7), Bench.drawn(0, 2));
     }
 
     private static void promise29And30() {
@@ -999,7 +984,7 @@ public final class PromiseTests {
         B.due("lit", x.count(2), 1);
         B.due("done", x.count(3), 0);
         B.due("guttered back", x.count(4), 0);
-        B.due("x back", x.count(7), draws(1, 12));
+        B.due("x back", x.count(7), Bench.drawn(1, 12));
         B.due("length back", x.thingIs(1, 1), 22);
         B.due("days back", x.thingIs(1, 3), 2);
         Bench.law(x, "x(1=2)");
@@ -1066,7 +1051,7 @@ public final class PromiseTests {
         PutOffWicks x = Bench.with("a10*;p20*;p5*;c9", "d10(k=1);d10(k=3);d0(1=1)");
         x.days(2);
         x.feed(0, 0, 0, 0, 0);
-        int[] want = {2, 4, 5, 10, 1, 3, 20, draws(1, 12), 1 | 1 << 15};
+        int[] want = {2, 4, 5, 10, 1, 3, 20, Bench.drawn(1, 12), 1 | 1 << 15};
         for (int what = 0; what < want.length; what++) {
             B.due("count(" + what + ")", x.count(what), want[what]);
         }

@@ -2,15 +2,38 @@
 final class Bench {
     private int asked = 0;
     private int wrong = 0;
+    private int sentences = 0;
+    private int askedOfSentence = 1;
+    private String sentence = "";
+
+    /** What follows, till the next one, tests this sentence of the document. */
+    void of(String words) {
+        endSentence();
+        sentences++;
+        askedOfSentence = 0;
+        sentence = "[" + words + "] ";
+    }
+
+    private void endSentence() {
+        if (askedOfSentence == 0) {
+            wrong++;
+            System.out.println(sentence + "is not tested");
+        }
+    }
 
     void due(String call, long got, long want) {
         asked++;
+        askedOfSentence++;
         if (got != want) {
             wrong++;
             if (wrong <= 40) {
-                System.out.println(call + " answered " + got + ", due is " + want);
+                System.out.println(sentence + call + " answered " + got + ", due is " + want);
             }
         }
+    }
+
+    void due(String call, String got, String want) {
+        due(call + ": " + got + " and " + want, got.equals(want), true);
     }
 
     void due(String call, boolean got, boolean want) {
@@ -19,7 +42,9 @@ final class Bench {
 
     /** Prints how it went and ends with exit code 1 if an answer was wrong. */
     void end() {
-        System.out.println(asked + " answers asked, " + wrong + " not as due");
+        endSentence();
+        String of = sentences == 0 ? "" : " of " + sentences + " sentences";
+        System.out.println(asked + " answers asked" + of + ", " + wrong + " not as due");
         if (wrong != 0 || asked == 0) {
             System.exit(1);
         }
@@ -43,6 +68,47 @@ final class Bench {
             bytes[i] = text.charAt(i);
         }
         return feed(wicks, bytes);
+    }
+
+    /** Twenty bytes of one kind, so many times. */
+    static void fill(PutOffWicks wicks, int times, int sign) {
+        int four = sign * 0x01010101;
+        for (int i = 0; i < times; i++) {
+            wicks.feed(four, four, four, four, four);
+        }
+    }
+
+    static String times(String text, int many, String between) {
+        StringBuilder all = new StringBuilder();
+        for (int i = 0; i < many; i++) {
+            all.append(i == 0 ? "" : between).append(text);
+        }
+        return all.toString();
+    }
+
+    /** X behind so many draws. */
+    static int drawn(int x, int many) {
+        long at = x;
+        for (int i = 0; i < many; i++) {
+            at = (25173L * at + 13849L) % 65536L;
+        }
+        return (int) at;
+    }
+
+    /** All that can be seen of an object without changing it. */
+    static String look(PutOffWicks wicks) {
+        StringBuilder all = new StringBuilder();
+        for (int what = 0; what <= 8; what++) {
+            all.append(wicks.count(what)).append(' ');
+        }
+        for (int k = 0; k < wicks.count(1); k++) {
+            for (int what = 0; what < 6; what++) {
+                all.append(what == 0 ? "| " : "").append(wicks.thingIs(k, what)).append(' ');
+            }
+        }
+        // what the law makes of it
+        all.append("| ").append(wicks.tried(1, 2)).append(' ').append(wicks.tried(7, 3));
+        return all.toString();
     }
 
     private static int four(int[] b, int i) {
