@@ -1,4 +1,7 @@
-/** Each sentence on what is reckoned from bytes that names a boundary has a test of its own (==== 2 and 3, 19 to 27, 31). */
+/**
+ * Each sentence on what is reckoned from bytes that names a boundary has a test of its own (==== 2 and 3,
+ * promises 19 to 27, 31).
+ */
 public final class BytesBoundaryTests {
     private static final Bench B = new Bench();
 
@@ -13,6 +16,7 @@ public final class BytesBoundaryTests {
         halvesTests();
         forgivenTests();
         checkTests();
+        againOnOneObject();
         B.end();
     }
 
@@ -134,6 +138,35 @@ public final class BytesBoundaryTests {
             pairs[4 * i + 1] = pairs[4 * i + 2] = 2 * i + 1;
         }
         B.due("eight rings of two", waiting(1, pairs), 8);
+        B.due("rings of three at one wait", waiting(1, 0, 1, 1, 2, 2, 0, 1, 3, 3, 0, 1, 4, 4, 0, 1, 5, 5, 0), 1);
+        B.due("rings of three at one of people", waiting(1, 0, 1, 1, 2, 2, 0, 0, 3, 3, 4, 4, 0, 0, 5, 5, 6, 6, 0), 3);
+        // 1 + 2 waits go across a cut of the round, and as many rings have no wait in common
+        B.due("five in a round", waiting(1, round(5, 1, 2)), 3);
+        B.due("ten in a round", waiting(1, round(10, 1, 2)), 3);
+        B.due("ten in a round, both ways", waiting(1, round(10, 1, 9)), 10);
+        // 1 + 3 waits go across a cut
+        B.due("nine in a round", waiting(1, round(9, 1, 3)), 4);
+        B.due("three times three who all wait for all", waiting(1, threes()), 9);
+    }
+
+    /** So many people in a round, each waits for those that sit so far from him. */
+    private static int[] round(int people, int... far) {
+        int[] twos = new int[2 * people * far.length];
+        for (int i = 0; i < people * far.length; i++) {
+            twos[2 * i] = i % people;
+            twos[2 * i + 1] = (i + far[i / people]) % people;
+        }
+        return twos;
+    }
+
+    private static int[] threes() {
+        int[] twos = new int[36];
+        for (int i = 0; i < 18; i++) {
+            int group = i / 6 * 3;
+            twos[2 * i] = group + i % 3;
+            twos[2 * i + 1] = group + (i % 3 + 1 + i % 6 / 3) % 3;
+        }
+        return twos;
     }
 
     private static void waitingToldTwice() {
@@ -209,6 +242,33 @@ public final class BytesBoundaryTests {
         B.due("the other way round", spun(0, 1, 4, 3, 2), 7);
         B.due("five", spun(0, 4, 5, 4, 1, 30, 4, 6, 30, 2, 3), 47);
         B.due("a long one for the other", spun(0, 1, 255, 255, 1), 257);
+        int x = 1;
+        for (int rows = 0; rows < 300; rows++) {
+            int[] hours = new int[2 * (2 + rows % 4)];
+            for (int i = 0; i < hours.length; i++) {
+                x = Bench.drawn(x, 1);
+                hours[i] = rows % 2 == 0 ? x / 256 % 6 : x / 256;
+            }
+            int[] best = {Integer.MAX_VALUE, 0};
+            tryOrders(hours, 0, new int[] {0, 0, -1}, best);
+            B.due("hours by all orders", spun(0, hours), best[0]);
+            B.due("first by all orders", spun(1, hours), best[1]);
+        }
+    }
+
+    /** Tries all that can follow, the least first; so far: hours of the one, of the other, which was first. */
+    private static void tryOrders(int[] hours, int taken, int[] soFar, int[] best) {
+        if (taken == (1 << hours.length / 2) - 1 && soFar[1] < best[0]) {
+            best[0] = soFar[1];
+            best[1] = soFar[2];
+        }
+        for (int k = 0; k < hours.length / 2; k++) {
+            if ((taken >> k & 1) == 0) {
+                int one = soFar[0] + hours[2 * k];
+                int other = Math.max(one, soFar[1]) + hours[2 * k + 1];
+                tryOrders(hours, taken | 1 << k, new int[] {one, other, soFar[2] < 0 ? k : soFar[2]}, best);
+            }
+        }
     }
 
     private static void spunLeastRow() {
@@ -358,7 +418,7 @@ public final class BytesBoundaryTests {
     }
 
     private static void putsOffDoesNotKnow() {
-        B.of("one who does not know himself: the first DAY whose cost is no more than these tenths of the least of all later");
+        B.of("one who does not know himself: the first DAY whose cost is no more than these tenths of the least");
         B.due("the last is the least", putsOff(10, false, 0, 5, 9, 4), 2);
         B.due("as little as the least", putsOff(10, false, 0, 4, 9, 4), 0);
         B.due("the second", putsOff(10, false, 0, 5, 3, 4), 1);
@@ -514,6 +574,11 @@ public final class BytesBoundaryTests {
         B.due("one of one, which", brightest(1, 1, 7, 0), 1);
         B.due("twelve of twelve", brightest(12, 1, row(24, 9, 3)), 4095);
         B.due("twelve of twelve, places", brightest(12, 0, row(24, 9, 3)), 7);
+        int[] last = row(24, 9, 3);
+        last[23] = 4;
+        B.due("the twelfth", brightest(1, 1, last), 2048);
+        B.due("the twelfth, places", brightest(1, 0, last), 9);
+        B.due("the twelfth and the first", brightest(2, 1, last), 2049);
         B.due("so many, though fewer would do", brightest(2, 1, 0, 255, 9, 0, 8, 0), 3);
         B.due("all of three", brightest(3, 0, 10, 2, 20, 3, 11, 2), 13);
         PutOffWicks x = new PutOffWicks();
@@ -614,6 +679,8 @@ public final class BytesBoundaryTests {
         B.due("is worth more", forgiven(1, 1, 1, 2), 1);
         B.due("both", forgiven(2, 1, 1, 2), 1);
         B.due("costs less, is worth less", forgiven(2, 2, 1, 1), 2);
+        B.due("costs a bit more, is worth much more", forgiven(1, 1, 2, 9), 2);
+        B.due("costs much less, is worth a bit less", forgiven(9, 9, 1, 8), 2);
         B.due("bytes above 127", forgiven(255, 127, 128, 255), 1);
         B.due("0 and 255", forgiven(0, 255, 255, 0, 0, 0, 255, 255), 1);
     }
@@ -700,5 +767,40 @@ public final class BytesBoundaryTests {
         B.due("21 of 20", x.check(21), -2);
         B.due("the tape stays", x.count(6), 20);
         B.due("20 of 20", x.check(20), -1);
+    }
+
+    // ---- rows that are used again
+
+    private static int again(PutOffWicks x, Asking asking, int each, int... bytes) {
+        Bench.feed(x, bytes);
+        return asking.of(x, bytes.length / each);
+    }
+
+    private static void againOnOneObject() {
+        B.of("(empty then): of an earlier call's bytes nothing is left");
+        PutOffWicks x = new PutOffWicks();
+        for (int i = 0; i < 2; i++) {
+            B.due("waiting, all", again(x, (w, n) -> w.waiting(n, 1), 2, round(10, 1, 9)), 10);
+            B.due("waiting, one", again(x, (w, n) -> w.waiting(n, 1), 2, 0, 1), 0);
+            B.due("waiting, wrong", again(x, (w, n) -> w.waiting(n, 0), 2, 0, 1, 1, 0, 2, 2), -3);
+            B.due("waiting, one more", again(x, (w, n) -> w.waiting(n, 0), 2, 1, 0), 0);
+            B.due("waiting, a round", again(x, (w, n) -> w.waiting(n, 1), 2, round(5, 1, 2)), 3);
+            B.due("brightest, all", again(x, (w, n) -> w.brightest(n, n, 0), 2, row(24, 128, 255)), 256);
+            B.due("brightest, one", again(x, (w, n) -> w.brightest(n, 1, 0), 2, 7, 0), 1);
+            B.due("seen, all", again(x, (w, n) -> w.seen(n, 12, 1), 2, row(24, 128, 255)), 256);
+            B.due("seen, one", again(x, (w, n) -> w.seen(n, 1, 0), 2, 7, 0), 1);
+            B.due("spun, all", again(x, (w, n) -> w.spun(n, 0), 2, row(16, 255)), 9 * 255);
+            B.due("spun, one", again(x, (w, n) -> w.spun(n, 0), 2, 1, 1), 2);
+            B.due("night, all", again(x, (w, n) -> w.night(n, 255), 2, row(32, 0, 255)), 1);
+            B.due("night, one", again(x, (w, n) -> w.night(n, 2), 2, 0, 1), -2);
+            B.due("cord, all", again(x, (w, n) -> w.cord(n, 1), 1, row(12, 255)), 3060);
+            B.due("cord, two", again(x, (w, n) -> w.cord(n, 1), 1, 1, 1), 2);
+            B.due("halves, all", again(x, (w, n) -> w.halves(n, 0), 1, row(16, 255)), 8);
+            B.due("halves, two", again(x, (w, n) -> w.halves(n, 1), 1, 5, 5), 0);
+            B.due("putsOff, all", again(x, (w, n) -> w.putsOff(n, 9, true, 1), 1, row(16, 255)), 255);
+            B.due("putsOff, one", again(x, (w, n) -> w.putsOff(n, 9, true, 1), 1, 3), 3);
+            B.due("forgiven, all", again(x, (w, n) -> w.forgiven(n), 2, row(32, 0, 255)), 16);
+            B.due("forgiven, one", again(x, (w, n) -> w.forgiven(n), 2, 255, 0), 1);
+        }
     }
 }

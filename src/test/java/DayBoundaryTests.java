@@ -1,4 +1,7 @@
-/** Each sentence on THINGS, A DAY and its DRAWS that names a boundary has a test of its own (Terms, 1, 2, 6, 28 to 30). */
+/**
+ * Each sentence on THINGS, A DAY and its DRAWS that names a boundary has a test of its own (Terms, promises 1, 2,
+ * 6, 28 to 30).
+ */
 public final class DayBoundaryTests {
     private static final Bench B = new Bench();
 

@@ -58,6 +58,7 @@ public final class LawBoundaryTests {
         dividedByZero();
         theWholeCDoesNotHold();
         theEOfItIsZero();
+        refusedAgainAndAgain();
         asMuchAsMatters();
     }
 
@@ -296,7 +297,8 @@ public final class LawBoundaryTests {
 
     private static void aSeventhOpen() {
         B.of("FAULTS: 5 a seventh of ( [ ! that are open in one another, at it");
-        String[] six = {"((((((", "!!!!!!", "[[[[[[", "(!(!([", "!(!(![", "((([[[", "!!![[[", "!([[[[", "(((((!", "!!!!!("};
+        String[] six = {"((((((", "!!!!!!", "[[[[[[", "(!(!([", "!(!(![", "((([[[", "!!![[[", "!([[[[", "(((((!",
+            "!!!!!("};
         for (String openers : six) {
             due("x(" + openers + "1=1", -5007);
             due("x(" + openers, -5007);
@@ -562,6 +564,15 @@ public final class LawBoundaryTests {
         B.due("d", Bench.with("a9;a9;a9", "d10+1/k(1=1);d10(1=1)").tried(1, 3), 6);
     }
 
+    private static void refusedAgainAndAgain() {
+        B.of("what is divided by 0 is REFUSED (again and again)");
+        PutOffWicks x = Bench.with(all24(), "x(1+2*[3+4*[5/0]]=0);b1+2*[3/0](1=1)");
+        x.days(100);
+        Bench.law(x, "x(1+2*[3+4*[5/1]]=47);b1+2*[3/1](1=1)");
+        B.due("what is not refused holds", x.tried(1, 2), (1 << 24) - 1);
+        B.due("and burns", x.thingIs(0, 1) - x.tried(1, 10), 7);
+    }
+
     private static void asMuchAsMatters() {
         B.of("Of a C as much is asked, from the left, as matters");
         holds("1=1|1/0=1", true);
@@ -687,6 +698,24 @@ public final class LawBoundaryTests {
         B.due("count(5)", x.count(5), 1);
         B.due("no d is left", x.tried(1, 3), 0);
         B.due("no x is left", x.tried(1, 2), 0);
+        String[] kinds = {"d10(1=1)", "x(1=1)", "b5(1=1)"};
+        for (String kind : kinds) {
+            Bench.parish(x, "a9*;b9");
+            Bench.law(x, "x(1=2);" + kind + ";" + kind);
+            Bench.law(x, "x(1=2)");
+            B.due("behind " + kind + ", done", x.tried(1, 3), 0);
+            B.due("behind " + kind + ", lit", x.tried(1, 2), 1);
+            B.due("behind " + kind + ", burns", x.tried(1, 10), 8);
+        }
+        Bench.parish(x, "a9");
+        String ones = "x(" + Bench.times("1", 117, "+") + "=11";
+        for (int i = 0; i < 5; i++) {
+            B.due("a law of 240 bytes", Bench.law(x, ones + "7)"), 1);
+            B.due("it holds", x.tried(1, 2), 1);
+            B.due("another one", Bench.law(x, ones + "6)"), 1);
+            B.due("it does not hold", x.tried(1, 2), 0);
+            B.due("a fault at the end of one", Bench.law(x, ones + "7"), -1239);
+        }
     }
 
     private static void theOneBeforeStays() {

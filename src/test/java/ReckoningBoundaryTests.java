@@ -1,4 +1,7 @@
-/** Each sentence on what is reckoned of the parish that names a boundary has a test of its own (==== 2, 7 to 17, 32). */
+/**
+ * Each sentence on what is reckoned of the parish that names a boundary has a test of its own (==== 2, promises
+ * 7 to 17, 32).
+ */
 public final class ReckoningBoundaryTests {
     private static final Bench B = new Bench();
 
@@ -515,6 +518,8 @@ public final class ReckoningBoundaryTests {
         B.due("of three: 1 1 5", putOff("a1;a1;a1", 2, 5).median(), 1);
         B.due("of four: 1 1 5 5", putOff("a1;a1;a1;a1", 2, 5).median(), 1);
         B.due("of four: 1 5 5 5", putOff("a1;a1;a1;a1", 1, 5).median(), 5);
+        B.due("of three: 1 2 2", putOff("a1;a1;a1", 1, 2).median(), 2);
+        B.due("of two: 1 2", putOff("a1;a1", 1, 2).median(), 1);
         String all = Bench.times("a1", 24, ";");
         B.due("of 24: 12 and 12", putOff(all, 12, 5).median(), 1);
         B.due("of 24: 11 and 13", putOff(all, 11, 5).median(), 5);

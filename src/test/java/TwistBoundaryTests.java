@@ -346,5 +346,10 @@ public final class TwistBoundaryTests {
         Bench.feed(x, "abz");
         B.due("a fault", x.twist(8, 3, 100), -1002);
         B.due("empty behind a fault", Bench.look(x), before);
+        B.due("64 turns", Bench.twist(x, 8, "8(8a)", 102), 64);
+        B.due("of them nothing is left", Bench.twist(x, 8, "bB", 102), 0);
+        B.due("open brackets", Bench.twist(x, 8, "a(b(c", 100), -1005);
+        B.due("of them nothing is left, either", Bench.twist(x, 8, "((a))", 100), 1);
+        B.due("a bracket too many", Bench.twist(x, 8, "a)", 100), -1001);
     }
 }
