@@ -371,6 +371,7 @@ public final class DayBoundaryTests {
         for (int what = 0; what < 9; what++) {
             B.due("count(" + what + ")", x.count(what), want[what]);
         }
+        B.due("NONE", PutOffWicks.NONE, -1);
         B.due("no kept one", x.undo(), false);
         B.due("no tape", x.check(1), -2);
         Bench.parish(x, "a5");

@@ -25,6 +25,8 @@ public final class TapeBoundaryTests {
         halves();
         forgiven();
         othersRefused();
+        memoryIsItsOwn();
+        calls512();
         B.end();
     }
 
@@ -336,5 +338,49 @@ public final class TapeBoundaryTests {
         }
         refused("light of 17", x -> x.light(17));
         refused("light of -1", x -> x.light(-1));
+    }
+
+    // ---- the object
+
+    private static void memoryIsItsOwn() {
+        B.of("All memory is the parish's own");
+        PutOffWicks x = full();
+        PutOffWicks other = new PutOffWicks();
+        String before = Bench.look(x);
+        Bench.parish(other, Bench.times("p9*", 24, ";"));
+        Bench.law(other, "d10(k>3);b7(1=1)");
+        other.seed(4711);
+        other.days(100);
+        other.keep();
+        Bench.twist(other, 8, "8(8a)", 100);
+        Bench.fill(other, 13, 255);
+        B.due("what the other one does", Bench.look(x), before);
+        String ofOther = Bench.look(other);
+        x.days(5);
+        x.undo();
+        B.due("its bytes", x.cord(12, 1), 78);
+        B.due("what it keeps", x.count(0), 2);
+        B.due("what this one does", Bench.look(other), ofOther);
+        B.due("a new one", Bench.look(new PutOffWicks()), "0 0 0 0 0 0 0 1 0 | 0 0");
+    }
+
+    private static void calls512() {
+        B.of("An object is used for at most 512 calls");
+        PutOffWicks x = Bench.with("a5;b5*", "d0(1=1);x(k=0);b0(1=1)");
+        // four calls went ahead, and five follow
+        for (int i = 0; i < 503; i++) {
+            x.days(1);
+        }
+        B.due("the day", x.count(0), 503);
+        B.due("x", x.count(7), Bench.drawn(1, 4 * 503));
+        B.due("put off", x.thingIs(1, 3), 503);
+        B.due("keep", x.keep(), 503);
+        B.due("the 512th", x.tried(100, 40), 603);
+        PutOffWicks y = new PutOffWicks();
+        for (int i = 0; i < 170; i++) {
+            y.feed(0x00010100, 0, 0, 0, 0);
+            B.due("waiting", y.waiting(2, 1), 1);
+            B.due("the tape", y.count(6), 0);
+        }
     }
 }
