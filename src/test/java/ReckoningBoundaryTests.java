@@ -454,6 +454,22 @@ public final class ReckoningBoundaryTests {
         B.due("two in a row and two free ones", x.orders(), 12);
         x.days(1);
         B.due("two in a row and a free one", x.orders(), 3);
+        ordersDoneOfAnotherParish();
+    }
+
+    /** By undo over another parish one is DONE that waits for one that is not: it stands ahead all the same. */
+    private static void ordersDoneOfAnotherParish() {
+        PutOffWicks x = Bench.with("a1;a1;a1;a1", "d10(k=1)");
+        x.days(1);
+        x.keep();
+        Bench.parish(x, "a1;a1<0;a1<1;a1<2;a1<0");
+        B.due("nothing is done", x.orders(), 4);
+        x.undo();
+        B.due("done", x.count(3), 2);
+        B.due("0, and what waits for it; 2, and what waits for it", x.orders(), 6);
+        Bench.parish(x, "a1;a1<0;a1<1");
+        x.undo();
+        B.due("0 and 2 in any order", x.orders(), 2);
     }
 
     // ---- 15
