@@ -12,11 +12,11 @@ public final class CompiledTests {
         "java/util/Arrays.fill:([II)V", "java/util/Arrays.fill:([JJ)V",
         "java/lang/System.arraycopy:(Ljava/lang/Object;ILjava/lang/Object;II)V");
 
-    private static final Set<String> NOT_ALLOWED = Set.of(
-        "athrow", "monitorenter", "monitorexit", "invokedynamic", "checkcast", "instanceof", "multianewarray");
-
-    private static final Set<String> MAKES = Set.of("new", "newarray", "anewarray");
-    private static final Set<String> DIVIDES = Set.of("idiv", "irem", "ldiv", "lrem");
+    private static final Map<Integer, String> NOT_ALLOWED = Map.of(
+        186, "invokedynamic", 191, "athrow", 192, "checkcast", 193, "instanceof", 194, "monitorenter",
+        195, "monitorexit", 197, "multianewarray");
+    private static final Map<Integer, String> MAKES = Map.of(187, "new", 188, "newarray", 189, "anewarray");
+    private static final Map<Integer, String> DIVIDES = Map.of(108, "idiv", 109, "ldiv", 112, "irem", 113, "lrem");
 
     /** Each of these carries how deep it is, and refuses to go deeper than the document lets it. */
     private static final Set<String> RECURSIVE = Set.of(
@@ -51,14 +51,19 @@ public final class CompiledTests {
 
     private static void instructionsAreAllowed(Compiled program) {
         B.of("6: No throw, synchronized; 7: a divisor before it divides; 12: rows are made by constructors");
-        for (Map.Entry<String, List<String>> method : program.instructions.entrySet()) {
+        int many = 0;
+        for (Map.Entry<String, List<Integer>> method : program.instructions.entrySet()) {
             String name = method.getKey();
-            for (String step : method.getValue()) {
-                B.due(name + " has " + step, NOT_ALLOWED.contains(step), false);
-                B.due(name + " makes by " + step, MAKES.contains(step) && !name.contains(".<init>:"), false);
-                B.due(name + " divides by " + step, DIVIDES.contains(step) && !DIVIDING.contains(name), false);
+            for (int step : method.getValue()) {
+                boolean makes = MAKES.containsKey(step) && !name.contains(".<init>:");
+                boolean divides = DIVIDES.containsKey(step) && !DIVIDING.contains(name);
+                B.due(name + " has " + NOT_ALLOWED.get(step), NOT_ALLOWED.containsKey(step), false);
+                B.due(name + " makes by " + MAKES.get(step), makes, false);
+                B.due(name + " divides by " + DIVIDES.get(step), divides, false);
+                many++;
             }
         }
+        B.due("instructions are found", many > 3000, true);
     }
 
     private static void recursionIsKnown(Compiled program) {
